@@ -5,6 +5,8 @@ public final class Promise04CopyTest {
         atMostTwenty();
         ofOneMoment();
         finishedBehindTheFifthRow();
+        finishedBehindASyncpoint();
+        finishedBehindAnEnd();
         finishedWithinBackingOut();
         finishedByCopy();
         finishedByCopyThatIsRefused();
@@ -68,6 +70,27 @@ public final class Promise04CopyTest {
         more(four, 3);
         Check.due("recover(1, 5)", four.recover(1, 5), -4);
         Check.due("that recover() finished it", four.recover(1, 6), 0);
+    }
+
+    private static void finishedBehindASyncpoint() {
+        LogForward x = new LogForward(1);
+        Check.due("copy(true)", x.copy(true), 1);
+        more(x, 4);
+        Check.due("sync(60)", x.sync(60), 5);
+        Check.due("row", x.row(1, 0, 0, 1), 6);
+        Check.due("recover(1, 4)", x.recover(1, 4), -4);
+        Check.due("recover(1, 5)", x.recover(1, 5), 1);
+        Check.due("get(31)", x.get(31), 4);
+    }
+
+    private static void finishedBehindAnEnd() {
+        LogForward x = withRows(4);
+        Check.due("copy(true)", x.copy(true), 1);
+        Check.due("backout(60)", x.backout(60), 4);
+        Check.due("row", x.row(1, 0, 0, 1), 10);
+        Check.due("recover(1, 8)", x.recover(1, 8), -4);
+        Check.due("recover(1, 9)", x.recover(1, 9), 0);
+        Check.due("count(0)", x.count(0), 9);
     }
 
     private static void finishedWithinBackingOut() {
