@@ -193,9 +193,6 @@ final class PlainLog {
     }
 
     long get(int cell) {
-        if (cell < 0 || cell > 31) {
-            throw new IllegalArgumentException();
-        }
         return cell(cell);
     }
 
@@ -217,6 +214,11 @@ final class PlainLog {
         }
         undo(unit);
         return changes.size();
+    }
+
+    /** The document does not say which of 0 and -5 comes first of a row torn and then archived. */
+    boolean leavesTornOpen(int log, int row) {
+        return (log == 0 || log == 1) && row >= 1 && row <= archived && (rows.get(row - 1).torn & log + 1) != 0;
     }
 
     int torn(int log, int row) {
@@ -268,10 +270,11 @@ final class PlainLog {
         return pick(found, i);
     }
 
+    boolean hasAt(int i, int what) {
+        return i >= 1 && i <= rows.size() && what >= 0 && what <= 6;
+    }
+
     int at(int i, int what) {
-        if (i < 1 || i > rows.size() || what < 0 || what > 6) {
-            throw new ArrayIndexOutOfBoundsException();
-        }
         Row row = rows.get(i - 1);
         int[] all = {row.kind, row.unit, row.cell, (int) row.before, (int) row.after, row.torn, row.back ? 1 : 0};
         return all[what];

@@ -15,7 +15,8 @@ public final class Promise02RowTest {
         promise.says("-3 another open unit has changed the cell", "not the unit itself", Promise02RowTest::another);
         promise.says("-3 another open unit has changed the cell", "though it holds what it held",
             Promise02RowTest::changedBack);
-        promise.says("-3 another open unit has changed the cell", "not one that is over", Promise02RowTest::anotherOver);
+        promise.says("-3 another open unit has changed the cell", "not one that is over",
+            Promise02RowTest::anotherOver);
         promise.says("-3 another open unit has changed the cell", "not one whose rows are gone",
             Promise02RowTest::anotherGone);
         promise.says("0 the cell doesn't hold before", "each of 64 bits counts", Promise02RowTest::notBefore);
@@ -27,10 +28,11 @@ public final class Promise02RowTest {
         promise.term("CELLS 0 .. 31 hold numbers of 64 bits (0 at first)", "the first, the last, the extremes",
             Promise02RowTest::edgesOfCells);
         promise.term("UNITS are 1 .. 60", "each of them", Promise02RowTest::allUnits);
-        promise.term("OPEN from their first change on", "a refused change opens none", Promise02RowTest::refusedOpensNone);
-        promise.term("never open again, unless their rows are gone", "gone, it is new", Promise02RowTest::newAgain);
-        promise.term("never open again, unless their rows are gone", "its first row is not gone",
-            Promise02RowTest::partlyGone);
+        promise.term("OPEN from their first change on", "a refused change opens none",
+            Promise02RowTest::refusedOpensNone);
+        String over = "then they are over (so never open again, unless their rows are gone)";
+        promise.term(over, "gone, it is new", Promise02RowTest::newAgain);
+        promise.term(over, "its first row is not gone", Promise02RowTest::partlyGone);
         promise.term("ROWS numbered from 1 on, at most 2000", "from 1 on again when all are gone",
             Promise02RowTest::fromOneAgain);
         promise.end();

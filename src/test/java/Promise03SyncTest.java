@@ -3,14 +3,15 @@ public final class Promise03SyncTest {
 
     public static void main(String[] args) {
         Sentences promise = new Sentences("Promise 3: sync");
-        promise.says("An open unit's syncpoint: the row's number", "the first and the last unit", Promise03SyncTest::number);
-        promise.says("-4;", "units too small", Promise03SyncTest::tooSmall);
-        promise.says("-4;", "units too large", Promise03SyncTest::tooLarge);
+        promise.says("An open unit's syncpoint: the row's number", "the first and the last unit",
+            Promise03SyncTest::number);
+        promise.says("the row's number; -4;", "units too small", Promise03SyncTest::tooSmall);
+        promise.says("the row's number; -4;", "units too large", Promise03SyncTest::tooLarge);
         promise.says("-5 it isn't open", "it never was", Promise03SyncTest::neverOpen);
         promise.says("-5 it isn't open", "it is synced", Promise03SyncTest::synced);
         promise.says("-5 it isn't open", "it is backed out", Promise03SyncTest::backedOut);
         promise.says("-5 it isn't open", "its rows are gone", Promise03SyncTest::gone);
-        promise.says("NONE.", "at 1999 rows not, at 2000 so", Promise03SyncTest::full);
+        promise.says("it isn't open; NONE", "at 1999 rows not, at 2000 so", Promise03SyncTest::full);
         promise.says("-4; -5 it isn't open; NONE", "the first of these", Promise03SyncTest::order);
         promise.term("1 a syncpoint", "a row without cell, before and after", Promise03SyncTest::row);
         promise.term("till they are SYNCED", "it is no longer open, and its cells are free", Promise03SyncTest::over);

@@ -5,14 +5,16 @@ public final class Promise04CopyTest {
         Sentences promise = new Sentences("Promise 4: copy");
         promise.says("An image: its number", "one more each time, of both kinds", Promise04CopyTest::numbers);
         promise.says("NONE when there are 20", "the 20th is made, the 21st is not", Promise04CopyTest::full);
-        promise.says("NONE when there are 20", "those that are never good again count", Promise04CopyTest::fullOfSpoiled);
+        promise.says("NONE when there are 20", "those that are never good again count",
+            Promise04CopyTest::fullOfSpoiled);
         promise.term("IMAGES are numbered from 1 on (at most 20)", "the first and the last can be used",
             Promise04CopyTest::firstAndLast);
         promise.term("START is the number of the latest row then (0 without one)", "0 without a row",
             Promise04CopyTest::startWithoutRow);
         promise.term("START is the number of the latest row then", "the row START itself is in the image",
             Promise04CopyTest::startWithRows);
-        promise.term("START is the number of the latest row then", "of a full log 2000", Promise04CopyTest::startOfFullLog);
+        promise.term("START is the number of the latest row then", "of a full log 2000",
+            Promise04CopyTest::startOfFullLog);
         promise.term("One of a moment has all cells then", "later changes leave it", Promise04CopyTest::ofOneMoment);
         promise.term("(Of one of a moment END is START.)", "not a row later", Promise04CopyTest::endIsStart);
         promise.term("A FUZZY one has cells 0 .. 15 then, the others when it is FINISHED",

@@ -3,18 +3,21 @@ public final class Promise05RecoverTest {
 
     public static void main(String[] args) {
         Sentences promise = new Sentences("Promise 5: recover");
-        promise.says("how many units are synced then", "none", Promise05RecoverTest::noneSynced);
+        promise.says("Recovery to a row: how many units are synced then", "none", Promise05RecoverTest::noneSynced);
         promise.says("how many units are synced then", "all 60", Promise05RecoverTest::allSynced);
-        promise.says("how many units are synced then", "not those synced behind until", Promise05RecoverTest::syncedThen);
+        promise.says("how many units are synced then", "not those synced behind until",
+            Promise05RecoverTest::syncedThen);
         promise.says("-2 no such image", "without any", Promise05RecoverTest::noImages);
         promise.says("-2 no such image", "too small", Promise05RecoverTest::imageTooSmall);
         promise.says("-2 no such image", "too large", Promise05RecoverTest::imageTooLarge);
         promise.says("or it is never good again", "END is behind until by one row", Promise05RecoverTest::neverGood);
-        promise.says("or it is never good again", "though as many rows are there again", Promise05RecoverTest::neverAgain);
+        promise.says("or it is never good again", "though as many rows are there again",
+            Promise05RecoverTest::neverAgain);
         promise.says("-4 until is behind the latest row", "by one row, or far", Promise05RecoverTest::untilTooLarge);
         promise.says("-4 until is behind the latest row", "numbers of 64 bits", Promise05RecoverTest::untilWrapsNot);
         promise.says("or ahead of the image's END", "by one row, or far", Promise05RecoverTest::untilTooSmall);
-        promise.says("or ahead of the image's END", "END of a fuzzy image, not START", Promise05RecoverTest::untilInSpan);
+        promise.says("or ahead of the image's END", "END of a fuzzy image, not START",
+            Promise05RecoverTest::untilInSpan);
         String missing = "-10 minus the least row that is needed and missing";
         promise.says(missing, "row 1", Promise05RecoverTest::missingFirst);
         promise.says(missing, "row 2000", Promise05RecoverTest::missingLast);

@@ -9,7 +9,8 @@ public final class Promise05RecoveringTest {
         promise.term(redo, "rows of backing out, too", Promise05RecoveringTest::redoOfBackingOut);
         promise.term(redo, "numbers of 64 bits", Promise05RecoveringTest::redoOfWideNumbers);
         promise.term(redo, "the whole of a full log", Promise05RecoveringTest::redoOfFullLog);
-        promise.term("rows behind UNTIL are gone", "none, when UNTIL is the latest row", Promise05RecoveringTest::noneGone);
+        promise.term("rows behind UNTIL are gone", "none, when UNTIL is the latest row",
+            Promise05RecoveringTest::noneGone);
         promise.term("rows behind UNTIL are gone", "all, when UNTIL is 0", Promise05RecoveringTest::allGone);
         promise.term("rows behind UNTIL are gone", "new rows of their numbers are not torn",
             Promise05RecoveringTest::newRowsAreWhole);
@@ -27,14 +28,18 @@ public final class Promise05RecoveringTest {
         promise.term(open, "none is open behind it", Promise05RecoveringTest::noneOpen);
         promise.term("(Changes that such rows are aren't backed out, and were none of those.)",
             "UNTIL within a backing out", Promise05RecoveringTest::withinBackingOut);
-        promise.term("Needed are rows behind START up to UNTIL", "START is not", Promise05RecoveringTest::startNotNeeded);
+        promise.term("Needed are rows behind START up to UNTIL", "START is not",
+            Promise05RecoveringTest::startNotNeeded);
         promise.term("Needed are rows behind START up to UNTIL", "the row behind START is",
             Promise05RecoveringTest::nextNeeded);
         promise.term("Needed are rows behind START up to UNTIL", "UNTIL is, the row behind is not",
             Promise05RecoveringTest::untilNeeded);
-        promise.term("Needed are rows behind START up to UNTIL", "rows of every kind", Promise05RecoveringTest::allKinds);
-        promise.term("Needed are rows behind START up to UNTIL", "a fuzzy image's span, too", Promise05RecoveringTest::span);
-        promise.term("all changes that are to be backed out", "ahead of START, too", Promise05RecoveringTest::openNeeded);
+        promise.term("Needed are rows behind START up to UNTIL", "rows of every kind",
+            Promise05RecoveringTest::allKinds);
+        promise.term("Needed are rows behind START up to UNTIL", "a fuzzy image's span, too",
+            Promise05RecoveringTest::span);
+        promise.term("all changes that are to be backed out: none of them may be missing", "ahead of START, too",
+            Promise05RecoveringTest::openNeeded);
         promise.term("all changes that are to be backed out", "not of units that are over",
             Promise05RecoveringTest::overNotNeeded);
         promise.term("all changes that are to be backed out", "of a unit that is synced behind UNTIL",

@@ -7,7 +7,8 @@ public final class Promise06GetTest {
         promise.says("A cell.", "numbers of 64 bits", Promise06GetTest::wide);
         promise.says("IllegalArgumentException when there is none such", "too small", Promise06GetTest::tooSmall);
         promise.says("IllegalArgumentException when there is none such", "too large", Promise06GetTest::tooLarge);
-        promise.says("IllegalArgumentException when there is none such", "nothing changes", Promise06GetTest::unchanged);
+        promise.says("IllegalArgumentException when there is none such", "nothing changes",
+            Promise06GetTest::unchanged);
         promise.term("CELLS 0 .. 31 hold numbers of 64 bits (0 at first)", "0 at first", Promise06GetTest::atFirst);
         promise.end();
     }

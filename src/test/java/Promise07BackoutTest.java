@@ -4,8 +4,8 @@ public final class Promise07BackoutTest {
     public static void main(String[] args) {
         Sentences promise = new Sentences("Promise 7: backout");
         promise.says("A unit is backed out: how many changes", "one, and several", Promise07BackoutTest::changes);
-        promise.says("-4;", "units too small", Promise07BackoutTest::tooSmall);
-        promise.says("-4;", "units too large", Promise07BackoutTest::tooLarge);
+        promise.says("how many changes; -4;", "units too small", Promise07BackoutTest::tooSmall);
+        promise.says("how many changes; -4;", "units too large", Promise07BackoutTest::tooLarge);
         promise.says("0 when it isn't open", "it never was", Promise07BackoutTest::neverOpen);
         promise.says("0 when it isn't open", "it is synced", Promise07BackoutTest::synced);
         promise.says("0 when it isn't open", "it is backed out", Promise07BackoutTest::backedOut);
@@ -16,7 +16,8 @@ public final class Promise07BackoutTest {
         promise.says(missing, "row 2000", Promise07BackoutTest::lastMissing);
         promise.says(missing, "torn in one copy is not missing", Promise07BackoutTest::tornInOneCopy);
         promise.says(missing, "another unit's rows are not its", Promise07BackoutTest::anothersMissing);
-        promise.says("NONE when there is no room for all rows", "room for just as many", Promise07BackoutTest::justRoom);
+        promise.says("NONE when there is no room for all rows", "room for just as many",
+            Promise07BackoutTest::justRoom);
         promise.says("NONE when there is no room for all rows", "room for the changes, not for the end",
             Promise07BackoutTest::noRoomForEnd);
         promise.says("NONE when there is no room for all rows", "a full log", Promise07BackoutTest::full);

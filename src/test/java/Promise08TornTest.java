@@ -18,7 +18,8 @@ public final class Promise08TornTest {
         promise.says("-2 no such copy or row", "of an archived row, too", Promise08TornTest::noCopyOfArchived);
         promise.says("-5 it is archived", "the last that is, and the next", Promise08TornTest::archived);
         promise.says("-5 it is archived", "all of a full log", Promise08TornTest::allArchived);
-        promise.term("a row torn in both is MISSING", "in one it is not", Promise08TornTest::missing);
+        promise.term("Each row stands in copies 0 and 1, each of which may be TORN; a row torn in both is MISSING",
+            "in one it is not", Promise08TornTest::missing);
         promise.end();
     }
 

@@ -3,7 +3,8 @@ public final class Promise10GapTest {
 
     public static void main(String[] args) {
         Sentences promise = new Sentences("Promise 10: gap");
-        promise.says("The i-th missing row, from 0 on", "by row numbers, however they were torn", Promise10GapTest::byNumbers);
+        promise.says("The i-th missing row, from 0 on", "by row numbers, however they were torn",
+            Promise10GapTest::byNumbers);
         promise.says("The i-th missing row, from 0 on", "rows 1 and 2000 of a full log", Promise10GapTest::full);
         promise.says("The i-th missing row, from 0 on", "all rows", Promise10GapTest::allRows);
         promise.says("The i-th missing row, from 0 on", "archived ones, too", Promise10GapTest::archived);

@@ -4,10 +4,13 @@ public final class Promise12AtTest {
     public static void main(String[] args) {
         Sentences promise = new Sentences("Promise 12: at");
         promise.says("what = 0 its kind", "each of 0, 1 and 2", Promise12AtTest::kind);
+        promise.term("of KINDS: 0 a change (unit, cell, before, after), 1 a syncpoint, 2 the end of backing out",
+            "each whole row", Promise12AtTest::wholeRows);
         promise.says("1 its unit", "the first and the last", Promise12AtTest::unit);
         promise.says("2 its cell", "the first and the last", Promise12AtTest::cell);
         promise.says("(NONE without one)", "a syncpoint and an end", Promise12AtTest::withoutCell);
-        promise.says("3, 4 the lowest 32 bits of before and after", "the bits above fall off", Promise12AtTest::lowestBits);
+        promise.says("3, 4 the lowest 32 bits of before and after", "the bits above fall off",
+            Promise12AtTest::lowestBits);
         promise.says("(0 without)", "a syncpoint and an end", Promise12AtTest::withoutNumbers);
         promise.says("5 its torn copies as bits", "each of 0, 1, 2 and 3", Promise12AtTest::tornCopies);
         promise.says("6 whether it was written by backing out", "1 or 0", Promise12AtTest::backingOut);
@@ -42,6 +45,15 @@ public final class Promise12AtTest {
 
     private static void kind() {
         dueWhat(allKinds(), 0, 0, 1, 0, 0, 2);
+    }
+
+    private static void wholeRows() {
+        LogForward x = allKinds();
+        Check.dueRow(x, 1, 0, 1, 0, 0, 0x8000_0002, 0, 0);
+        Check.dueRow(x, 2, 1, 1, -1, 0, 0, 0, 0);
+        Check.dueRow(x, 3, 0, 60, 31, 0, -3, 0, 0);
+        Check.dueRow(x, 4, 0, 60, 31, -3, 0, 0, 1);
+        Check.dueRow(x, 5, 2, 60, -1, 0, 0, 0, 1);
     }
 
     private static void unit() {

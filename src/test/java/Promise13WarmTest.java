@@ -11,7 +11,8 @@ public final class Promise13WarmTest {
         promise.term("OPEN from their first change on", "later changes and refused calls count no more",
             Promise13WarmTest::firstChange);
         promise.term("till they are SYNCED or BACKED OUT", "by either", Promise13WarmTest::over);
-        promise.term("then all units that are open are backed out", "none behind a recovery", Promise13WarmTest::recovered);
+        promise.term("then all units that are open are backed out", "none behind a recovery",
+            Promise13WarmTest::recovered);
         promise.end();
     }
 

@@ -1,10 +1,14 @@
 import java.util.Random;
 
-/** Random runs of 512 calls, each answer held against PlainLog's; the seeds are fixed. */
+/**
+ * Random runs of the 512 calls that an object is good for, each answer held against PlainLog's; the
+ * seeds are fixed.
+ */
 public final class RandomRunsTest {
 
-    private static final int RUNS = 400;
+    private static final int RUNS = 1500;
     private static final int CALLS = 512;
+    private static final int READS_BEHIND_A_RECOVERY = 25;
     private static final int[] EXTREMES = {
         Integer.MIN_VALUE, Integer.MIN_VALUE + 1, -1, 61, 2000, 2001, Integer.MAX_VALUE - 1, Integer.MAX_VALUE,
     };
@@ -17,6 +21,7 @@ public final class RandomRunsTest {
     private final int tearing;
     private final int recovering;
     private final String run;
+    private int readsDue = 0;
 
     private RandomRunsTest(int seed) {
         random = new Random(seed);
@@ -41,7 +46,6 @@ public final class RandomRunsTest {
         for (int call = 0; call < CALLS; call++) {
             oneCall();
         }
-        allDue();
     }
 
     private int near(int low, int high) {
@@ -52,9 +56,11 @@ public final class RandomRunsTest {
     }
 
     private void oneCall() {
-        int rows = plain.count(0);
         int choice = random.nextInt(60 + tearing + recovering);
-        if (choice < 36) {
+        if (readsDue > 0) {
+            readsDue--;
+            read();
+        } else if (choice < 36) {
             row();
         } else if (choice < 42) {
             int unit = near(1, units);
@@ -66,16 +72,14 @@ public final class RandomRunsTest {
             boolean fuzzy = random.nextBoolean();
             Check.due(run + "copy(" + fuzzy + ")", x.copy(fuzzy), plain.copy(fuzzy));
         } else if (choice < 49) {
-            int n = near(0, rows);
+            int n = near(0, plain.count(0));
             Check.due(run + "archive(" + n + ")", x.archive(n), plain.archive(n));
         } else if (choice < 60) {
-            reading(choice - 49);
+            read();
         } else if (choice < 60 + tearing) {
-            int log = near(0, 1);
-            int row = near(Math.max(1, rows - 5), rows + 1);
-            Check.due(run + "torn(" + log + ", " + row + ")", x.torn(log, row), plain.torn(log, row));
+            torn();
         } else {
-            recover(rows);
+            recover();
         }
     }
 
@@ -88,65 +92,73 @@ public final class RandomRunsTest {
             x.row(unit, cell, before, after), plain.row(unit, cell, before, after));
     }
 
-    private void recover(int rows) {
-        int image = random.nextInt(8) == 0 ? near(1, 20) : Math.max(1, plain.count(1) - random.nextInt(4));
-        long until = random.nextInt(40) == 0 ? random.nextLong() : near(Math.max(0, rows - random.nextInt(20)), rows);
-        Check.due(run + "recover(" + image + ", " + until + ")", x.recover(image, until), plain.recover(image, until));
-        allDue();
+    private void torn() {
+        int log = near(0, 1);
+        int row = near(Math.max(1, plain.count(0) - 5), plain.count(0) + 1);
+        if (plain.leavesTornOpen(log, row)) {
+            return;
+        }
+        Check.due(run + "torn(" + log + ", " + row + ")", x.torn(log, row), plain.torn(log, row));
     }
 
-    private void reading(int choice) {
+    private void recover() {
+        int rows = plain.count(0);
+        int image = random.nextInt(8) == 0 ? near(1, 20) : Math.max(1, plain.count(1) - random.nextInt(4));
+        long until = random.nextInt(40) == 0 ? random.nextLong() : near(Math.max(0, rows - random.nextInt(20)), rows);
+        String call = run + "recover(" + image + ", " + until + ")";
+        Check.due(call, x.recover(image, until), plain.recover(image, until));
+        readsDue = READS_BEHIND_A_RECOVERY;
+    }
+
+    private void read() {
+        int rows = plain.count(0);
         int i = near(0, 5);
-        if (choice < 2) {
-            Check.due(run + "gap(" + i + ")", x.gap(i), plain.gap(i));
-        } else if (choice < 5) {
-            int region = near(0, 4);
-            Check.due(run + "merge(" + region + ", " + i + ")", x.merge(region, i), plain.merge(region, i));
-        } else if (choice < 8) {
-            at(near(1, plain.count(0)), near(0, 6));
-        } else if (choice < 9) {
-            get(near(0, 31));
-        } else {
-            counts();
+        switch (random.nextInt(10)) {
+            case 0:
+                Check.due(run + "gap(" + i + ")", x.gap(i), plain.gap(i));
+                break;
+            case 1:
+                int region = near(0, 4);
+                Check.due(run + "merge(" + region + ", " + i + ")", x.merge(region, i), plain.merge(region, i));
+                break;
+            case 2:
+                Check.due(run + "warm()", x.warm(), plain.warm());
+                break;
+            case 3:
+                Check.due(run + "ahead()", x.ahead(), plain.ahead());
+                break;
+            case 4:
+                int what = near(0, 3);
+                Check.due(run + "count(" + what + ")", x.count(what), plain.count(what));
+                break;
+            case 5:
+            case 6:
+                get(near(0, 31));
+                break;
+            case 7:
+                at(near(1, rows), near(0, 6));
+                break;
+            default:
+                at(near(Math.max(1, rows - 15), rows), near(0, 6));
+                break;
         }
     }
 
     private void at(int i, int what) {
-        long want = 0;
-        try {
-            want = plain.at(i, what);
-        } catch (ArrayIndexOutOfBoundsException none) {
-            Check.dueThrow(run + "at(" + i + ", " + what + ")", ArrayIndexOutOfBoundsException.class, () -> x.at(i, what));
-            return;
+        String call = run + "at(" + i + ", " + what + ")";
+        if (plain.hasAt(i, what)) {
+            Check.due(call, x.at(i, what), plain.at(i, what));
+        } else {
+            Check.dueThrow(call, ArrayIndexOutOfBoundsException.class, () -> x.at(i, what));
         }
-        Check.due(run + "at(" + i + ", " + what + ")", x.at(i, what), want);
     }
 
     private void get(int cell) {
+        String call = run + "get(" + cell + ")";
         if (cell < 0 || cell > 31) {
-            Check.dueThrow(run + "get(" + cell + ")", IllegalArgumentException.class, () -> x.get(cell));
+            Check.dueThrow(call, IllegalArgumentException.class, () -> x.get(cell));
         } else {
-            Check.due(run + "get(" + cell + ")", x.get(cell), plain.get(cell));
-        }
-    }
-
-    private void counts() {
-        Check.due(run + "warm()", x.warm(), plain.warm());
-        Check.due(run + "ahead()", x.ahead(), plain.ahead());
-        for (int what = -1; what <= 4; what++) {
-            Check.due(run + "count(" + what + ")", x.count(what), plain.count(what));
-        }
-    }
-
-    private void allDue() {
-        counts();
-        for (int cell = 0; cell < 32; cell++) {
-            get(cell);
-        }
-        for (int row = 1; row <= plain.count(0); row++) {
-            for (int what = 0; what <= 6; what++) {
-                at(row, what);
-            }
+            Check.due(call, x.get(cell), plain.get(cell));
         }
     }
 }
